@@ -670,8 +670,7 @@ public final class TruckPlatoons {
             return TEXT_ERROR;
         }
         for (int command = 0; command < script.commands; command++) {
-            if (!perform(script.word[command], script.first[command], script.second[command],
-                    script.third[command])) {
+            if (!perform(command)) {
                 return command;
             }
         }
@@ -679,7 +678,11 @@ public final class TruckPlatoons {
     }
 
     /** Does a command of a script; false where its method would throw an exception or return an error code. */
-    private boolean perform(int word, int first, int second, int third) {
+    private boolean perform(int command) {
+        int word = script.word(command);
+        int first = script.argument(command, 0);
+        int second = script.argument(command, 1);
+        int third = script.argument(command, 2);
         if (word == Script.ALL) {
             mergeByGain();
             return true;
@@ -986,21 +989,19 @@ public final class TruckPlatoons {
                 if (text.kind == Text.END) {
                     return true;
                 }
-                if (!readStatement(text)) {
+                boolean good = false;
+                if (text.isWord("road")) {
+                    good = draft.roads < ROADS ? readRoad(text, draft.roads) : text.fail(LIMIT_ERROR);
+                } else if (text.isWord("truck")) {
+                    good = draft.trucks < TRUCKS ? readTruck(text, draft.trucks) : text.fail(LIMIT_ERROR);
+                } else {
+                    text.fail(SYNTAX_ERROR);
+                }
+                if (!good) {
                     return false;
                 }
             }
             return false;
-        }
-
-        private boolean readStatement(Text text) {
-            if (text.isWord("road")) {
-                return draft.roads < ROADS ? readRoad(text, draft.roads) : text.fail(LIMIT_ERROR);
-            }
-            if (text.isWord("truck")) {
-                return draft.trucks < TRUCKS ? readTruck(text, draft.trucks) : text.fail(LIMIT_ERROR);
-            }
-            return text.fail(SYNTAX_ERROR);
         }
 
         private boolean readRoad(Text text, int road) {
@@ -1081,11 +1082,19 @@ public final class TruckPlatoons {
 
         private static final int MOST_COMMANDS = 30;
 
+        private static final int MOST_ARGUMENTS = 3;
+
         int commands = 0;
-        final int[] word = new int[MOST_COMMANDS];
-        final int[] first = new int[MOST_COMMANDS];
-        final int[] second = new int[MOST_COMMANDS];
-        final int[] third = new int[MOST_COMMANDS];
+        private final int[] words = new int[MOST_COMMANDS];
+        private final int[] arguments = new int[MOST_COMMANDS * MOST_ARGUMENTS];
+
+        int word(int command) {
+            return words[command];
+        }
+
+        int argument(int command, int index) {
+            return arguments[command * MOST_ARGUMENTS + index];
+        }
 
         boolean read(Text text) {
             commands = 0;
@@ -1101,7 +1110,7 @@ public final class TruckPlatoons {
                 if (command == MOST_COMMANDS) {
                     return text.fail(LIMIT_ERROR);
                 }
-                word[command] = found;
+                words[command] = found;
                 if (!readArguments(text, command) || !text.readSemicolon()) {
                     return false;
                 }
@@ -1133,38 +1142,44 @@ public final class TruckPlatoons {
         }
 
         private boolean readArguments(Text text, int command) {
-            if (word[command] == ALL) {
-                return true;
+            int word = words[command];
+            for (int index = 0; index < argumentsOf(word); index++) {
+                int least = word == SPEED && index == 2 ? LEAST_SPEED : 0;
+                if (!text.readNumber(least, mostOf(word, index))) {
+                    return false;
+                }
+                arguments[command * MOST_ARGUMENTS + index] = text.value;
             }
-            if (!text.readNumber(0, TRUCKS - 1)) {
-                return false;
-            }
-            first[command] = text.value;
-            switch (word[command]) {
+            return true;
+        }
+
+        private static int argumentsOf(int word) {
+            switch (word) {
                 case WAIT:
-                    return readSecond(text, command, PLACES - 1) && readThird(text, command, 0, MOST_WAIT);
                 case SPEED:
-                    return readSecond(text, command, PLACES - 1)
-                            && readThird(text, command, LEAST_SPEED, MOST_SPEED);
+                    return 3;
                 case START:
-                    return readSecond(text, command, LAST_START);
                 case MERGE:
-                    return readSecond(text, command, TRUCKS - 1);
+                    return 2;
+                case HURRY:
+                case RELAX:
+                    return 1;
                 default:
-                    return true;
+                    return 0;
             }
         }
 
-        private boolean readSecond(Text text, int command, int most) {
-            boolean good = text.readNumber(0, most);
-            second[command] = text.value;
-            return good;
-        }
-
-        private boolean readThird(Text text, int command, int least, int most) {
-            boolean good = text.readNumber(least, most);
-            third[command] = text.value;
-            return good;
+        private static int mostOf(int word, int index) {
+            if (index == 0 || word == MERGE) {
+                return TRUCKS - 1;
+            }
+            if (word == START) {
+                return LAST_START;
+            }
+            if (index == 1) {
+                return PLACES - 1;
+            }
+            return word == WAIT ? MOST_WAIT : MOST_SPEED;
         }
     }
 
@@ -1412,11 +1427,11 @@ public final class TruckPlatoons {
                 position[stop] = at - first;
                 distance[stop] = at == first ? 0 : distanceAt(row, at);
                 closes[stop] = closesUpAt(row, first, at);
-                saved[stop] = at == first ? 0 : savedBehind(base, distance[stop]);
+                saved[stop] = at == first ? 0 : base * shareByDistance(distance[stop]) / 1000;
                 allFuel += base - saved[stop] + (closes[stop] ? CLOSING_COST : 0);
             }
             if (after - first > 1) {
-                saved[row[first]] = savedByFirst(base, distance[row[first + 1]]);
+                saved[row[first]] = base * (shareByDistance(distance[row[first + 1]]) / 4) / 1000;
                 allFuel -= saved[row[first]];
             }
         }
@@ -1445,21 +1460,16 @@ public final class TruckPlatoons {
             return distance < 50 ? 150 - 3 * distance : 0;
         }
 
-        private static int savedBehind(int base, int distance) {
-            return base * shareByDistance(distance) / 1000;
-        }
-
-        /** What the first of a platoon saves, by the distance of the second one. */
-        private static int savedByFirst(int base, int distance) {
-            return base * (shareByDistance(distance) / 4) / 1000;
-        }
-
         /** What the members of an order save, less what closing up costs in it. */
         int valueOfOrder(int[] order, int first, int after) {
             int base = base(order[first]);
-            int value = after - first > 1 ? savedByFirst(base, distanceAt(order, first + 1)) : 0;
+            int value = 0;
             for (int at = first + 1; at < after; at++) {
-                value += savedBehind(base, distanceAt(order, at));
+                int share = shareByDistance(distanceAt(order, at));
+                value += base * share / 1000;
+                if (at == first + 1) {
+                    value += base * (share / 4) / 1000;
+                }
                 if (closesUpAt(order, first, at)) {
                     value -= CLOSING_COST;
                 }
