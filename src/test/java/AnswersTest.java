@@ -49,6 +49,7 @@ public final class AnswersTest {
         row("truck(1)", 0, what -> FORK.truck(1, what), 0, 500, 20, 2, 85, 100, 27084, 1116, 0);
         row("truck(3)", 0, what -> FORK.truck(3, what), 5, 500, 10, 1, 50, 60, 18600, 0, 0);
         row("truck(2) of ZIP", 6, what -> ZIP.truck(2, what), 2 * 18600 - 2232 - 2232 + 300, 4464, 1);
+        row("truck(3) of ZIP", 6, what -> ZIP.truck(3, what), 2 * 18600 - 2232 - 2232 + 300, 4464, 1);
         Check.dueIndex("truck(-1, 0)", () -> FORK.truck(-1, 0));
         Check.dueIndex("truck(4, 0)", () -> FORK.truck(4, 0));
         Check.dueIndex("truck(4, 99)", () -> FORK.truck(4, 99));

@@ -49,6 +49,7 @@ public final class EditsTest {
             Check.dueIndex("merge(" + none + ", 0)", () -> x.merge(none, 0));
             Check.dueIndex("merge(0, " + none + ")", () -> x.merge(0, none));
             Check.dueIndex("gain(" + none + ", 0)", () -> x.gain(none, 0));
+            Check.dueIndex("gain(0, " + none + ")", () -> x.gain(0, none));
             Check.dueIndex("gain(" + none + ", " + none + ")", () -> x.gain(none, none));
             Check.dueIndex("bestPartner(" + none + ")", () -> x.bestPartner(none));
             Check.dueIndex("hurry(" + none + ")", () -> x.hurry(none));
@@ -202,6 +203,10 @@ public final class EditsTest {
         Check.due("undo()", x.undo(), 0);
         Check.due("FUEL", x.count(5), 4 * 18600);
         Check.due("mergeAll() that would make one late", Check.loaded(Worlds.apart(30, 119, 900)).mergeAll(), 0);
+        x = Check.loaded(Worlds.MANY);
+        Check.due("mergeAll(), at most 30 times", x.mergeAll(), 30);
+        Check.due("mergeAll() of the rest", x.mergeAll(), 3);
+        Check.due("edits", x.count(8), 2);
         Check.due("mergeAll() without trucks", new TruckPlatoons().mergeAll(), 0);
     }
 
@@ -240,6 +245,12 @@ public final class EditsTest {
         x.setSpeed(0, 0, 120);
         Check.due("hurry() at the LIMIT already", x.hurry(0), 1);
         Check.due("ARRIVAL", x.truck(0, 4), 60);
+        Check.due("FUEL", x.count(5), 2 * 60 * 510);
+        x = Check.loaded(Worlds.FORK);
+        Check.due("hurry() of truck 2", x.hurry(2), 2);
+        Check.due("SPEED of truck 2", x.place(2, 0, 2), 100);
+        Check.due("SPEED of truck 0", x.place(0, 0, 2), 80);
+        Check.due("platoons on road 0 behind it", x.road(0, 4), 3);
     }
 
     private static void relax() {
@@ -257,6 +268,12 @@ public final class EditsTest {
         Check.due("relax() by a little", x.relax(0), 1);
         Check.due("SPEED at 1", x.place(0, 1, 2), 77);
         Check.due("relax() of one just in time", Check.loaded(String.format(two, 90)).relax(0), 0);
+        Check.due("FUEL then", x.count(5), 18600 + 60 * 298);
+        x = Check.loaded(Worlds.FORK);
+        Check.due("relax() of truck 1", x.relax(1), 2);
+        Check.due("SPEED of truck 1", x.place(1, 1, 2), 40);
+        Check.due("SPEED of truck 0", x.place(0, 0, 2), 80);
+        Check.due("platoons on road 0 behind it", x.road(0, 4), 3);
         x = Check.loaded(String.format(two, 89));
         Check.due("relax() of a late one", x.relax(0), 0);
         Check.due("SPEED then", x.place(0, 0, 2), 80);

@@ -45,10 +45,20 @@ public final class SetsTest {
         Check.due("alone() of other minutes", x.alone(), 4);
         x.setSpeed(1, 0, 79);
         Check.due("alone() of other SPEEDs", x.alone(), 7);
+        Check.due("lateOnes() with truck 0", Check.loaded("road 0 1 60 80;truck 1 45 10 0;").lateOnes(), 1);
+        // a truck of ten places, none of which it shares, ahead of two that are together
+        String ten = " 0 1 0 1 0 1 0 1 0 1;";
+        TruckPlatoons y = Check.loaded("road 0 1 60 80;road 1 0 60 80;truck 0 900 10" + ten + "truck 1 900 10" + ten
+                + "truck 1 900 10" + ten);
+        Check.due("alone() of ten places", y.alone(), 1);
+        Check.due("saved of ten places", y.truck(0, 7), 0);
     }
 
     private static void bestRoad() {
         Check.due("bestRoad() of FORK", FORK.bestRoad(), 0);
+        // 310 * 6 / 1000 is 1 and a rest
+        Check.due("bestRoad() that saves 1",
+                Check.loaded("road 0 1 1 80;truck 0 900 48 0;truck 0 900 48 0;").bestRoad(), 0);
         Check.due("bestRoad() without trucks", new TruckPlatoons().bestRoad(), -1);
         Check.due("bestRoad() without platoons", Check.loaded(Worlds.apart(1, 900, 900)).bestRoad(), -1);
         Check.due("bestRoad() of the same savings", Check.loaded(Worlds.apart(0, 900, 900)).bestRoad(), 0);
@@ -84,6 +94,13 @@ public final class SetsTest {
             Check.dueIndex("orderLoss(0, " + none + ")", () -> FORK.orderLoss(0, none));
             Check.dueIndex("bestMember(0, " + none + ", 0)", () -> FORK.bestMember(0, none, 0));
         }
+        // the ORDER is 1 2 0 by the KEYs, which pays as much as 0 1 2
+        TruckPlatoons x = Check.loaded("road 0 1 60 80;road 1 2 60 80;truck 0 900 10 0;truck 0 900 10 0 1;"
+                + "truck 0 900 10 0 1;");
+        Check.due("position() of the least KEY", x.position(0, 0), 2);
+        Check.due("position() of the greatest KEY", x.position(1, 0), 0);
+        order("bestMember() of like orders", x, 0, 0, 0, 1, 2);
+        Check.due("orderLoss() of like orders", x.orderLoss(0, 0), 0);
         Check.dueIndex("bestMember(0, 0, -1)", () -> FORK.bestMember(0, 0, -1));
     }
 
@@ -119,6 +136,7 @@ public final class SetsTest {
     private static void rates() {
         Check.due("rate(0)", Float.floatToIntBits(FORK.rate(0)), Float.floatToIntBits(48856f / 160f));
         Check.due("rate(3)", Float.floatToIntBits(FORK.rate(3)), Float.floatToIntBits(310f));
+        Check.due("rate() of one kilometer", (long) Check.loaded("road 0 1 1 80;truck 0 9 5 0;").rate(0), 310);
         Check.dueIndex("rate(-1)", () -> (long) FORK.rate(-1));
         Check.dueIndex("rate(4)", () -> (long) FORK.rate(4));
         Check.due("shareBits() of FORK", FORK.shareBits(), Float.floatToIntBits(4836f / 146000f));
@@ -137,6 +155,7 @@ public final class SetsTest {
         Check.due("quickest(0, 2), over two roads", x.quickest(0, 2), 49);
         Check.due("quickest(0, 19)", x.quickest(0, 19), 79);
         Check.due("quickest(1, 0), round", x.quickest(1, 0), 40);
+        Check.due("quickest(19, 2), round", x.quickest(19, 2), 50);
         Check.due("quickest(0, 0)", x.quickest(0, 0), 0);
         Check.due("quickest(7, 7), without roads", x.quickest(7, 7), 0);
         Check.due("quickest(0, 7)", x.quickest(0, 7), -1);

@@ -11,6 +11,7 @@ public final class TextTest {
         lowestCode();
         scripts();
         latestText();
+        fullBuffer();
         Check.end();
     }
 
@@ -94,6 +95,15 @@ public final class TextTest {
         Check.due("its edits", x.count(8), 0);
         Check.due("its undo()", x.undo(), -1);
         Check.due("its snapshots", x.restoreSnapshot(1), false);
+        x.saveSnapshot(0);
+        Check.type(x, Worlds.ZIP);
+        x.load();
+        Check.due("snapshots behind another load()", x.restoreSnapshot(0), false);
+        Check.due("KEY behind another load()", x.key(0, 0), 2);
+        Check.type(x, "road 0 1 60 80;truck 0 500 10 0;truck 0 500 10 0;truck 0 500 10 0;");
+        x.load();
+        Check.due("KEY behind a third load()", x.key(0, 0), 1);
+        Check.due("RUN behind a third load()", x.run(0, 2, 2), 1);
         Check.due("load() of nothing behind it", x.load(), 0);
         Check.due("roads behind that", x.count(0), 0);
         Check.dueIndex("truck(0, 0) behind that", () -> x0().truck(0, 0));
@@ -108,11 +118,20 @@ public final class TextTest {
     private static void syntax() {
         Check.dueLoadError("roads 0 1 60 80;", 1, 0);
         Check.dueLoadError("  wait 0 0 1;", 1, 2);
+        Check.dueLoadError("toad 0 1 60 80;", 1, 0);
+        Check.dueLoadError("roar 0 1 60 80;", 1, 0);
+        Check.dueLoadError("roa 0 1 60 80;", 1, 0);
         Check.dueLoadError("7", 1, 0);
         Check.dueLoadError(";", 1, 0);
         Check.dueLoadError("Road 0 1 60 80;", 1, 0);
         Check.dueLoadError("rOad 0 1 60 80;", 1, 0);
         Check.dueLoadError("roadX 0 1 60 80;", 1, 4);
+        Check.dueLoadError("roadz 0 1 60 80;", 1, 0);
+        Check.dueLoadError("roada 0 1 60 80;", 1, 0);
+        Check.dueLoadError("road{ 0 1 60 80;", 1, 4);
+        Check.dueLoadError("road` 0 1 60 80;", 1, 4);
+        Check.dueLoadError("road 0:1 60 80;", 1, 6);
+        Check.dueLoadError("road 0/1 60 80;", 1, 6);
         Check.dueLoadError("roadroadr 0 1 60 80;", 1, 0);
         Check.dueLoadError("road 0 000001 60 80;", 1, 7);
         Check.dueLoadError("road 0 123456 60 80;", 1, 7);
@@ -199,6 +218,19 @@ public final class TextTest {
         Check.duePlayError("all;".repeat(30) + "all;", 4, 120);
         Check.duePlayError("all;".repeat(30) + "road", 1, 120);
         Check.due("30 commands", Check.play(new TruckPlatoons(), "all;".repeat(30)), 30);
+    }
+
+    private static void fullBuffer() {
+        String road = "road 0 1 60 80;";
+        Check.due("load() of 1500 bytes", Check.loaded(road + "\n".repeat(1485)).count(0), 1);
+        Check.dueLoadError(road + " ".repeat(1484) + "x", 1, 1499);
+        Check.dueLoadError(road + " ".repeat(1484) + "7", 1, 1499);
+        Check.dueLoadError(" ".repeat(1498) + "1\u00ff", 1, 1498);
+        Check.dueLoadError(" ".repeat(1496) + "road", 1, 1500);
+        Check.dueLoadError(" ".repeat(1491) + "road 0 01", 1, 1500);
+        Check.duePlayError(" ".repeat(1497) + "all", 1, 1500);
+        Check.dueLoadError("1".repeat(1500), 1, 0);
+        Check.dueLoadError("a".repeat(1500), 1, 0);
     }
 
     private static void latestText() {

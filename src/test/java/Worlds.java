@@ -22,6 +22,16 @@ final class Worlds {
     static final String ZIP = "road 0 1 60 100;road 1 2 60 80;road 1 3 60 80;"
             + "truck 0 900 10 0 1;truck 0 900 10 0 2;truck 0 900 10 0 1;truck 0 900 10 0 2;";
 
+    /** A world, found by a search, in which all mergings with a GAIN above 0 are 33. */
+    static final String MANY = "road 0 1 24 63;road 1 0 36 95;road 1 0 255 69;road 0 1 118 103;road 0 1 18 79;road 0 1 78 67;"
+            + "road 0 1 109 116;road 1 0 8 84;road 1 0 25 51;road 1 0 180 86;road 0 1 28 53;"
+            + "truck 218 10000 27 7 3 9 6 2 6 7;truck 59 10000 30 2 10 2 10 7 4 2;truck 311 10000 49 9 3 7;"
+            + "truck 388 10000 15 10 8 10 9 5 1;truck 58 10000 7 5 9 10 8 5 8 5 7 0;"
+            + "truck 77 10000 38 2 0 1 10;truck 149 10000 6 1 6 7 6 1 4 7 3 8 4;"
+            + "truck 125 10000 34 7 5 1 5 7 0 7 4 8;truck 52 10000 18 3 1 3 9 5 2;"
+            + "truck 23 10000 36 7 6 7 4 8 5 1 0 7 3;truck 119 10000 35 4 2 3 9 4 2 4 1;"
+            + "truck 13 10000 48 3 9 0 2 10;";
+
     /** Two trucks on the same two roads of 45 minutes, ten minutes apart. */
     static String apart(int minutes, int deadline, int otherDeadline) {
         return "road 0 1 60 80;road 1 2 60 80;truck 0 " + deadline + " 10 0 1;truck " + minutes + " "
