@@ -827,7 +827,7 @@ public final class TruckPlatoons {
         int errorCode = 0;
         int errorPosition = NONE;
 
-        /** Of the token that next() has read: its kind, its first byte, what is behind it, its value as a number. */
+        // of the token that next() has read: its kind, its first byte, the byte behind it, its value as a number
         int kind = END;
         int begin = 0;
         int end = 0;
@@ -1081,7 +1081,6 @@ public final class TruckPlatoons {
         static final int ALL = 6;
 
         private static final int MOST_COMMANDS = 30;
-
         private static final int MOST_ARGUMENTS = 3;
 
         int commands = 0;
