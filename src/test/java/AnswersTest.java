@@ -18,57 +18,51 @@ public final class AnswersTest {
         Check.end();
     }
 
-    private static void row(String call, int first, java.util.function.IntUnaryOperator of, int... want) {
-        for (int at = 0; at < want.length; at++) {
-            Check.due(call + " at " + (first + at), of.applyAsInt(first + at), want[at]);
-        }
-    }
-
     private static void counts() {
         // FUEL: 4 * 18600 + 2 * 31000 + 9600 less 279 + 1116 + 1116 and 465 + 1860
-        row("count() of FORK", -1, FORK::count, -1, 3, 4, 7, 2, 1, 141164, 4836, 0, 0, 3, -1);
+        Check.dueRow("count() of FORK", -1, FORK::count, -1, 3, 4, 7, 2, 1, 141164, 4836, 0, 0, 3, -1);
         // saved: 558 + 3 * 2232 on road 0, 558 + 2232 on either other road
-        row("count() of ZIP", 0, ZIP::count, 3, 4, 8, 3, 0, 136566, 12834, 600, 0, 4);
-        row("count() of a lone truck", 0, Check.loaded("road 0 1 1 40;truck 0 2 5 0;")::count,
+        Check.dueRow("count() of ZIP", 0, ZIP::count, 3, 4, 8, 3, 0, 136566, 12834, 600, 0, 4);
+        Check.dueRow("count() of a lone truck", 0, Check.loaded("road 0 1 1 40;truck 0 2 5 0;")::count,
                 1, 1, 1, 0, 0, 190, 0, 0, 0, 1);
     }
 
     private static void roads() {
-        row("road(0)", -1, what -> FORK.road(0, what), -1, 0, 1, 60, 100, 2, 4, -1);
-        row("road(2)", 0, what -> FORK.road(2, what), 1, 3, 40, 60, 1, 1);
+        Check.dueRow("road(0)", -1, what -> FORK.road(0, what), -1, 0, 1, 60, 100, 2, 4, -1);
+        Check.dueRow("road(2)", 0, what -> FORK.road(2, what), 1, 3, 40, 60, 1, 1);
         TruckPlatoons ring = Check.loaded("road 0 1 9 50;road 1 0 9 50;road 5 6 9 50;truck 0 0 5 0 1 0;truck 0 0 5 1;");
-        row("platoons and trucks of a road taken twice", 4, what -> ring.road(0, what), 2, 1);
-        row("platoons and trucks of an unused road", 4, what -> ring.road(2, what), 0, 0);
+        Check.dueRow("platoons and trucks of a road taken twice", 4, what -> ring.road(0, what), 2, 1);
+        Check.dueRow("platoons and trucks of an unused road", 4, what -> ring.road(2, what), 0, 0);
         Check.dueIndex("road(-1, 0)", () -> FORK.road(-1, 0));
         Check.dueIndex("road(3, 0)", () -> FORK.road(3, 0));
         Check.dueIndex("road(3, 99)", () -> FORK.road(3, 99));
     }
 
     private static void trucks() {
-        row("truck(0)", -1, what -> FORK.truck(0, what), -1, 0, 500, 10, 2, 120, 160, 48856, 744, 0, -1);
-        row("truck(1)", 0, what -> FORK.truck(1, what), 0, 500, 20, 2, 85, 100, 27084, 1116, 0);
-        row("truck(3)", 0, what -> FORK.truck(3, what), 5, 500, 10, 1, 50, 60, 18600, 0, 0);
-        row("truck(2) of ZIP", 6, what -> ZIP.truck(2, what), 2 * 18600 - 2232 - 2232 + 300, 4464, 1);
-        row("truck(3) of ZIP", 6, what -> ZIP.truck(3, what), 2 * 18600 - 2232 - 2232 + 300, 4464, 1);
+        Check.dueRow("truck(0)", -1, what -> FORK.truck(0, what), -1, 0, 500, 10, 2, 120, 160, 48856, 744, 0, -1);
+        Check.dueRow("truck(1)", 0, what -> FORK.truck(1, what), 0, 500, 20, 2, 85, 100, 27084, 1116, 0);
+        Check.dueRow("truck(3)", 0, what -> FORK.truck(3, what), 5, 500, 10, 1, 50, 60, 18600, 0, 0);
+        Check.dueRow("truck(2) of ZIP", 6, what -> ZIP.truck(2, what), 2 * 18600 - 2232 - 2232 + 300, 4464, 1);
+        Check.dueRow("truck(3) of ZIP", 6, what -> ZIP.truck(3, what), 2 * 18600 - 2232 - 2232 + 300, 4464, 1);
         Check.dueIndex("truck(-1, 0)", () -> FORK.truck(-1, 0));
         Check.dueIndex("truck(4, 0)", () -> FORK.truck(4, 0));
         Check.dueIndex("truck(4, 99)", () -> FORK.truck(4, 99));
     }
 
     private static void places() {
-        row("place(0, 0)", -1, what -> FORK.place(0, 0, what), -1, 0, 0, 80, 0, 0, 45, 18600, 279, 18321, 0, 0, -1);
-        row("place(2, 0)", 0, what -> FORK.place(2, 0, what), 0, 0, 80, 0, 0, 45, 18600, 1116, 17484, 0, 30);
-        row("place(1, 1)", 0, what -> FORK.place(1, 1, what), 2, 0, 60, 45, 45, 85, 9600, 0, 9600, 0, 0);
-        row("place(2, 0) of ZIP", 6, what -> ZIP.place(2, 0, what), 18600, 2232, 16668, 1, 10);
-        row("place(1, 0) of ZIP", 6, what -> ZIP.place(1, 0, what), 18600, 2232, 16368, 0, 10);
+        Check.dueRow("place(0, 0)", -1, what -> FORK.place(0, 0, what), -1, 0, 0, 80, 0, 0, 45, 18600, 279, 18321, 0, 0, -1);
+        Check.dueRow("place(2, 0)", 0, what -> FORK.place(2, 0, what), 0, 0, 80, 0, 0, 45, 18600, 1116, 17484, 0, 30);
+        Check.dueRow("place(1, 1)", 0, what -> FORK.place(1, 1, what), 2, 0, 60, 45, 45, 85, 9600, 0, 9600, 0, 0);
+        Check.dueRow("place(2, 0) of ZIP", 6, what -> ZIP.place(2, 0, what), 18600, 2232, 16668, 1, 10);
+        Check.dueRow("place(1, 0) of ZIP", 6, what -> ZIP.place(1, 0, what), 18600, 2232, 16368, 0, 10);
         TruckPlatoons waiting = Check.loaded(Worlds.FORK);
         waiting.setWait(3, 0, 20);
-        row("a first place with a WAIT", 3, what -> waiting.place(3, 0, what), 5, 25, 70);
+        Check.dueRow("a first place with a WAIT", 3, what -> waiting.place(3, 0, what), 5, 25, 70);
         waiting.setWait(0, 1, 20);
-        row("a later place with a WAIT", 3, what -> waiting.place(0, 1, what), 45, 65, 140);
+        Check.dueRow("a later place with a WAIT", 3, what -> waiting.place(0, 1, what), 45, 65, 140);
         // 60 * 60 / 79 is 45 and a rest; 79 * 79 / 40 is 156 and a rest
         waiting.setSpeed(3, 0, 79);
-        row("divisions with a rest", 5, what -> waiting.place(3, 0, what), 25 + 46, 60 * 306);
+        Check.dueRow("divisions with a rest", 5, what -> waiting.place(3, 0, what), 25 + 46, 60 * 306);
         Check.dueIndex("place(4, 0, 0)", () -> FORK.place(4, 0, 0));
         Check.dueIndex("place(-1, 0, 0)", () -> FORK.place(-1, 0, 0));
         Check.dueIndex("place(3, 1, 0)", () -> FORK.place(3, 1, 0));
@@ -76,15 +70,15 @@ public final class AnswersTest {
     }
 
     private static void orders() {
-        row("position() on road 0", 0, truck -> FORK.position(truck, 0), 0, 2, 1, 0);
-        row("key() on road 0", 0, truck -> FORK.key(truck, 0), 2, 1, 2, 0);
-        row("platoonOf() on road 0", 0, truck -> FORK.platoonOf(truck, 0), 0, 0, 0, 1);
-        row("key() of truck 2", 0, place -> FORK.key(2, place), 2, 1);
-        row("position() of ZIP", 0, truck -> ZIP.position(truck, 0), 0, 1, 2, 3);
+        Check.dueRow("position() on road 0", 0, truck -> FORK.position(truck, 0), 0, 2, 1, 0);
+        Check.dueRow("key() on road 0", 0, truck -> FORK.key(truck, 0), 2, 1, 2, 0);
+        Check.dueRow("platoonOf() on road 0", 0, truck -> FORK.platoonOf(truck, 0), 0, 0, 0, 1);
+        Check.dueRow("key() of truck 2", 0, place -> FORK.key(2, place), 2, 1);
+        Check.dueRow("position() of ZIP", 0, truck -> ZIP.position(truck, 0), 0, 1, 2, 3);
         // the routes share roads 0 and 1, then differ, then both have road 3, which counts no more
         TruckPlatoons x = Check.loaded("road 0 1 9 50;road 1 2 9 50;road 1 2 9 50;road 2 3 9 50;"
                 + "truck 0 0 5 0 1 3;truck 0 0 5 0 2 3;");
-        row("key() of routes that part", 0, place -> x.key(0, place), 1, 0, 1);
+        Check.dueRow("key() of routes that part", 0, place -> x.key(0, place), 1, 0, 1);
         for (int truck = -1; truck <= 4; truck += 5) {
             int none = truck;
             Check.dueIndex("position(" + none + ", 0)", () -> FORK.position(none, 0));
@@ -100,11 +94,11 @@ public final class AnswersTest {
     }
 
     private static void platoons() {
-        row("platoon(0, 0)", -1, what -> FORK.platoon(0, 0, what), -1, 0, 80, 3, 2511, 0, 7, -1);
-        row("platoon(0, 1)", 0, what -> FORK.platoon(0, 1, what), 5, 80, 1, 0, 0, 8);
-        row("platoon(0, 0) of ZIP", 0, what -> ZIP.platoon(0, 0, what), 0, 80, 4, 7254, 2, 15);
-        row("member(0, 0)", 0, position -> FORK.member(0, 0, position), 0, 2, 1, -1, -1);
-        row("member(0, 1)", 0, position -> FORK.member(0, 1, position), 3, -1);
+        Check.dueRow("platoon(0, 0)", -1, what -> FORK.platoon(0, 0, what), -1, 0, 80, 3, 2511, 0, 7, -1);
+        Check.dueRow("platoon(0, 1)", 0, what -> FORK.platoon(0, 1, what), 5, 80, 1, 0, 0, 8);
+        Check.dueRow("platoon(0, 0) of ZIP", 0, what -> ZIP.platoon(0, 0, what), 0, 80, 4, 7254, 2, 15);
+        Check.dueRow("member(0, 0)", 0, position -> FORK.member(0, 0, position), 0, 2, 1, -1, -1);
+        Check.dueRow("member(0, 1)", 0, position -> FORK.member(0, 1, position), 3, -1);
         Check.due("member() far behind", FORK.member(0, 1, Integer.MAX_VALUE), -1);
         Check.dueIndex("platoon(0, 2, 0)", () -> FORK.platoon(0, 2, 0));
         Check.dueIndex("platoon(0, -1, 0)", () -> FORK.platoon(0, -1, 0));
@@ -121,9 +115,9 @@ public final class AnswersTest {
     private static void numbering() {
         TruckPlatoons x = Check.loaded("road 0 1 60 80;truck 9 0 5 0;truck 9 0 5 0;truck 3 0 5 0;");
         x.setSpeed(1, 0, 79);
-        row("platoonOf()", 0, truck -> x.platoonOf(truck, 0), 2, 1, 0);
-        row("ENTER of the platoons", 0, platoon -> x.platoon(0, platoon, 0), 3, 9, 9);
-        row("SPEED of the platoons", 0, platoon -> x.platoon(0, platoon, 1), 80, 79, 80);
+        Check.dueRow("platoonOf()", 0, truck -> x.platoonOf(truck, 0), 2, 1, 0);
+        Check.dueRow("ENTER of the platoons", 0, platoon -> x.platoon(0, platoon, 0), 3, 9, 9);
+        Check.dueRow("SPEED of the platoons", 0, platoon -> x.platoon(0, platoon, 1), 80, 79, 80);
     }
 
     /** With a distance of 49 s is 3, a quarter of which is 0; with 50 or more nothing is saved. */
@@ -139,7 +133,7 @@ public final class AnswersTest {
             Check.due("bestRoad(), GAP " + gaps[at], x.bestRoad(), behind[at] > 0 ? 0 : -1);
         }
         TruckPlatoons x = Check.loaded("road 0 1 60 80;truck 0 0 40 0;truck 0 0 5 0;truck 0 0 6 0;");
-        row("distance to the GAP ahead", 0, truck -> x.place(truck, 0, 10), 0, 40, 6);
+        Check.dueRow("distance to the GAP ahead", 0, truck -> x.place(truck, 0, 10), 0, 40, 6);
     }
 
     private static void pairs() {
@@ -172,10 +166,10 @@ public final class AnswersTest {
         // truck 0 drives 0 1 2 0 1 3, truck 1 drives 1 2 0 1, truck 2 drives 4
         TruckPlatoons x = Check.loaded("road 0 1 9 50;road 1 2 9 50;road 2 0 9 50;road 2 5 9 50;road 7 8 9 50;"
                 + "truck 0 0 5 0 1 2 0 1 3;truck 0 0 5 1 2 0 1;truck 0 0 5 4;");
-        row("run(0, 1)", 0, what -> x.run(0, 1, what), 0, 2, 2);
-        row("run(1, 0)", 0, what -> x.run(1, 0, what), 0, 1, 4);
-        row("run(0, 2)", 0, what -> x.run(0, 2, what), -1, -1, 0);
-        row("run(2, 2)", 0, what -> x.run(2, 2, what), -3, -3, -3);
+        Check.dueRow("run(0, 1)", 0, what -> x.run(0, 1, what), 0, 2, 2);
+        Check.dueRow("run(1, 0)", 0, what -> x.run(1, 0, what), 0, 1, 4);
+        Check.dueRow("run(0, 2)", 0, what -> x.run(0, 2, what), -1, -1, 0);
+        Check.dueRow("run(2, 2)", 0, what -> x.run(2, 2, what), -3, -3, -3);
         Check.due("common(0, 1)", x.common(0, 1), 3);
         Check.due("common(1, 0)", x.common(1, 0), 3);
         Check.due("common(0, 0)", x.common(0, 0), 4);
@@ -186,7 +180,7 @@ public final class AnswersTest {
     }
 
     private static void speeds() {
-        row("slack()", 0, FORK::slack, 380, 415, -20, 450);
+        Check.dueRow("slack()", 0, FORK::slack, 380, 415, -20, 450);
         // road 1 is entered at 45: 6000 / 90 is 66 and a rest, 6000 / 40 is 150
         Check.due("neededSpeed at the LIMIT", FORK.neededSpeed(0, 1, 112), 90);
         Check.due("neededSpeed above the LIMIT", FORK.neededSpeed(0, 1, 111), -1);

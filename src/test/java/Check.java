@@ -1,10 +1,14 @@
 import java.nio.charset.StandardCharsets;
 import java.util.Arrays;
+import java.util.function.IntUnaryOperator;
 
 /** What the tests share: counting wrong answers, catching what a call throws, and bringing text into the input. */
 final class Check {
     private static int wrong = 0;
     private static int asked = 0;
+
+    /** What the next answers are about, for the report of a wrong one. */
+    static String about = "";
 
     private Check() {
     }
@@ -16,9 +20,17 @@ final class Check {
     static void due(String call, long got, long want) {
         asked++;
         if (got != want) {
-            wrong++;
-            System.out.println(call + " answered " + got + ", due is " + want);
+            wrong(call + " answered " + got + ", due is " + want);
         }
+    }
+
+    static void wrong(String report) {
+        wrong++;
+        System.out.println(about + report);
+    }
+
+    static int asked() {
+        return asked;
     }
 
     static void due(String call, boolean got, boolean want) {
@@ -36,8 +48,7 @@ final class Check {
             }
             got = "threw " + e;
         }
-        wrong++;
-        System.out.println(call + " " + got + ", due is " + want.getSimpleName());
+        wrong(call + " " + got + ", due is " + want.getSimpleName());
     }
 
     static void dueIndex(String call, Call made) {
@@ -50,6 +61,32 @@ final class Check {
 
     static void dueState(String call, Call made) {
         dueThrows(call, IllegalStateException.class, made);
+    }
+
+    /** The call throws next to the ends of a range, and for the least and the greatest int, but not at its ends. */
+    static void dueOutside(String call, Class<? extends RuntimeException> want, int first, int last,
+            IntUnaryOperator made) {
+        for (int outside : new int[] {first - 1, last + 1, Integer.MIN_VALUE, Integer.MAX_VALUE}) {
+            dueThrows(call + " of " + outside, want, () -> made.applyAsInt(outside));
+        }
+        dueNotThrown(call + " of " + first, () -> made.applyAsInt(first));
+        dueNotThrown(call + " of " + last, () -> made.applyAsInt(last));
+    }
+
+    static void dueNotThrown(String call, Call made) {
+        asked++;
+        try {
+            made.answer();
+        } catch (RuntimeException e) {
+            wrong(call + " threw " + e);
+        }
+    }
+
+    /** Answers for one number after the other. */
+    static void dueRow(String call, int first, IntUnaryOperator of, int... want) {
+        for (int at = 0; at < want.length; at++) {
+            due(call + " at " + (first + at), of.applyAsInt(first + at), want[at]);
+        }
     }
 
     /** Appends a text, of at most 1500 bytes, to an empty input buffer. */
@@ -108,8 +145,7 @@ final class Check {
     static void dueText(String call, String got, String want) {
         asked++;
         if (!got.equals(want)) {
-            wrong++;
-            System.out.println(call + " answered " + got + ", due is " + want);
+            wrong(call + " answered " + got + ", due is " + want);
         }
     }
 
