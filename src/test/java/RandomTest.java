@@ -53,6 +53,8 @@ public final class RandomTest {
                 load(random.nextInt(3) == 0 ? spoilt(world()) : world());
             } else if (kind < 6) {
                 play(random.nextInt(4) == 0 ? spoilt(script()) : script());
+            } else if (kind == 6 && used < 400) {
+                pileUp(random.nextBoolean() ? world() : script());
             } else {
                 any();
             }
@@ -249,6 +251,29 @@ public final class RandomTest {
         call("count", 8);
     }
 
+    /** Texts one behind the other, some cut off, until nothing more can be appended; rarely they are read then. */
+    private void pileUp(String text) throws ReflectiveOperationException {
+        int appends = random.nextInt(10) == 0 ? 77 : random.nextInt(9);
+        byte[] bytes = Arrays.copyOf(text.getBytes(StandardCharsets.ISO_8859_1), 1500);
+        for (int append = 0; append < appends; append++) {
+            append(bytes, append % 75 * 20);
+            if (appends < 77 && random.nextInt(6) == 0) {
+                call("truncateInput", random.nextInt(append * 20 + 40) - 10);
+            }
+        }
+        told.append("piled up: ").append(text).append('\n');
+        if (random.nextInt(3) == 0) {
+            call(random.nextBoolean() ? "load" : "play");
+            behindText();
+            call("digest");
+        }
+    }
+
+    private void append(byte[] bytes, int at) throws ReflectiveOperationException {
+        call("appendInput", Check.word(bytes, at), Check.word(bytes, at + 4), Check.word(bytes, at + 8),
+                Check.word(bytes, at + 12), Check.word(bytes, at + 16));
+    }
+
     private void behindText() throws ReflectiveOperationException {
         call("errorCode");
         call("errorPosition");
@@ -258,8 +283,7 @@ public final class RandomTest {
         call("truncateInput", 0);
         byte[] bytes = Arrays.copyOf(text.getBytes(StandardCharsets.ISO_8859_1), (text.length() + 19) / 20 * 20);
         for (int at = 0; at < bytes.length; at += 20) {
-            call("appendInput", Check.word(bytes, at), Check.word(bytes, at + 4), Check.word(bytes, at + 8),
-                    Check.word(bytes, at + 12), Check.word(bytes, at + 16));
+            append(bytes, at);
         }
         call("truncateInput", text.length());
         told.append("text: ").append(text).append('\n');
